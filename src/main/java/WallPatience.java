@@ -662,7 +662,8 @@ public final class WallPatience {
         }
 
         int grows(int sky, boolean night) {
-            int appetite = isUnder(kind, YOUNG) ? hunger + 1 : hunger;
+            // a sleepy one is young too
+            int appetite = kind == YOUNG || kind == SLEEPY ? hunger + 1 : hunger;
             int honour = kind == PROUD ? 2 * pride : pride;
             int sum = Math.max(0, appetite + chill(sky, night) + care() - honour);
             return kind == SLEEPY && night ? sum / 2 : sum;
@@ -1005,23 +1006,25 @@ public final class WallPatience {
             }
         }
 
-        private void pass(int h) {
-            if (within(h, 0, AHEAD - 1)) {
-                trial.passHour(skies[h], nights[h], h);
+        private void pass(int h, boolean eats) {
+            if (!within(h, 0, AHEAD - 1)) {
+                return;
             }
-        }
-
-        private void passEating(int h, int set) {
-            if ((set >> h & 1) == 1) {
+            if (eats) {
                 trial.eatCrust();
             }
-            pass(h);
+            trial.passHour(skies[h], nights[h], h);
+        }
+
+        /** A set has bits for the first hours alone; a shift by 32 and more would find them again. */
+        private static boolean isMeal(int h, int set) {
+            return h < EAT_HOURS && (set >> h & 1) == 1;
         }
 
         int strainBehind(Sitter s, int n) {
             trial.takeFrom(s);
             for (int h = 0; h < n; h++) {
-                pass(h);
+                pass(h, false);
             }
             return trial.strain;
         }
@@ -1029,7 +1032,7 @@ public final class WallPatience {
         void filmOnto(Sheet sheet, int i, Sitter s, int n) {
             trial.takeFrom(s);
             for (int h = 0; h < n; h++) {
-                pass(h);
+                pass(h, false);
                 sheet.put(i + h, trial.strain);
             }
         }
@@ -1049,8 +1052,7 @@ public final class WallPatience {
         int hoursSat(Sitter s, int n, int set) {
             trial.takeFrom(s);
             for (int h = 0; h < n && trial.sits(); h++) {
-                // a set has bits for the first hours alone; a shift by 32 and more would find them again
-                passEating(h, h < EAT_HOURS ? set : 0);
+                pass(h, isMeal(h, set));
             }
             return trial.sits() ? n : trial.downHour;
         }
@@ -1097,7 +1099,7 @@ public final class WallPatience {
             }
             trial.takeFrom(s);
             for (int h = 0; h < n; h++) {
-                passEating(h, set);
+                pass(h, isMeal(h, set));
                 if (sheet.items[i + h] != trial.strain) {
                     return false;
                 }
@@ -1139,7 +1141,7 @@ public final class WallPatience {
             trial.hunger -= b;
             trial.cold -= c;
             for (int h = 0; h < n; h++) {
-                pass(h);
+                pass(h, false);
             }
             return Math.max(0, trial.strain + 1 - s.line);
         }

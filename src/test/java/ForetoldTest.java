@@ -156,6 +156,13 @@ public final class ForetoldTest {
         // five hours, three of wind: 15 is the cost of b 3 and of c 5
         trains("w24,0;p16,3,5,0;", 5, 15, 0, 0, 5);
         trains("w24,0;p18,6,5,0;", 2, 8, 1, 0, 2);
+        // half the chill by a cloak: 21 is the cost of c 7 and of a 2, b 1, c 4
+        WallPatience x = Due.with("w1,0;s51,4,7,8;");
+        x.cloak(0, 1);
+        int[] want = {21, 0, 0, 7};
+        for (int what = 0; what < 4; what++) {
+            due.is("with a cloak train(0, 11, " + what + ")", x.train(0, 11, what), want[what]);
+        }
     }
 
     private static void dusk() {

@@ -273,6 +273,11 @@ public final class SheetsTest {
         due.is("nothing", x.told(1, 3, 0, 1, 0), NULL);
         due.is("another lane", x.told(0, 2, 0, 1, 0), CAST);
         due.is("too many", x.told(0, 3, 23, 1, 0), INDEX);
+        x.item(0, 3, 0, 8);
+        due.is("8", x.told(0, 3, 0, 1, 0), NOT);
+        due.is("8 is not among these", x.told(0, 3, 2, 1, 0), 7);
+        x.item(0, 3, 0, -1);
+        due.is("-1", x.told(0, 3, 0, 1, 0), NOT);
         x.item(0, 3, 0, 1L << 32);
         due.is("a long that is not as told", x.told(0, 3, 0, 1, 0), NOT);
     }
