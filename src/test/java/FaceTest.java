@@ -81,7 +81,8 @@ public final class FaceTest {
             boolean isPublic = Modifier.isPublic(f.getModifiers());
             open += isPublic ? 1 : 0;
             due.isTrue(f + " is public or private", isPublic || Modifier.isPrivate(f.getModifiers()));
-            due.isTrue(f + " is final if static", !Modifier.isStatic(f.getModifiers()) || Modifier.isFinal(f.getModifiers()));
+            boolean isStatic = Modifier.isStatic(f.getModifiers());
+            due.isTrue(f + " is final if static", !isStatic || Modifier.isFinal(f.getModifiers()));
         }
         due.is("public constants", open, 8);
         Constructor<?>[] made = c.getDeclaredConstructors();
@@ -103,8 +104,18 @@ public final class FaceTest {
             due.isTrue(c + " has at most twenty fields", fields <= 20);
             for (Method m : c.getDeclaredMethods()) {
                 due.isTrue(m + " takes at most seven", m.getParameterCount() <= 7);
+                due.isTrue(m + " has a name of its own", !isPromised(m.getName()));
             }
         }
+    }
+
+    private static boolean isPromised(String name) {
+        for (Method m : WallPatience.class.getDeclaredMethods()) {
+            if (Modifier.isPublic(m.getModifiers()) && m.getName().equals(name)) {
+                return true;
+            }
+        }
+        return false;
     }
 
     private static void bannedWords() throws IOException {
