@@ -13,6 +13,9 @@ public final class ForetoldEdgesTest {
 
     public static void main(String[] args) {
         nothingChanges();
+        nothingElseBeingDone();
+        byTheDrawsThatCome();
+        byTheNightsThatCome();
         strainBehind0To60();
         strainAtTheLine();
         downOf60();
@@ -45,6 +48,7 @@ public final class ForetoldEdgesTest {
         game0Hours();
         gameWhoIsDown();
         gameCrusts();
+        gameOneThingAtATime();
         gameNews();
         beyondHour9999();
         due.end();
@@ -95,6 +99,86 @@ public final class ForetoldEdgesTest {
             due.isTrue(c + " changes nothing", scene.staysBehind(List.of(c)));
         }
         due.isTrue("all of them", scene.staysBehind(calls));
+    }
+
+    /** "nothing else being done": who has crusts and strain eats none. */
+    private static void nothingElseBeingDone() {
+        WallPatience x = Due.with("w24,9;p12,6,0,0;p12,6,0,0;p30,6,0,0;p99,0,0,0;");
+        x.hours(1);
+        due.is("strain", x.strain(0, 1), 12);
+        due.is("down", x.down(0), 1);
+        due.is("down", x.down(2), 4);
+        due.is("duel", x.duel(0, 1), NONE);
+        due.is("duel", x.duel(1, 0), NONE);
+        due.is("honour", x.honour(0), 8);
+        due.is("honour", x.honour(2), 11);
+        due.is("train", x.train(0, 1, 0), 2);
+        due.is("dusk", x.dusk(4), 24);
+        due.is("dusk", x.dusk(3), NONE);
+        x.sheet(0, 0, 1);
+        x.film(0, 1, 0, 0, 0);
+        due.is("film", x.ate(0, 0, 0, 0, 1, 1), 0);
+        due.is("odds", x.odds(2, 0, 1, 5, 0), 1);
+    }
+
+    /** Seed 46 has wind in three hours, then rain; draw 1 has wind in two, then rain. */
+    private static WallPatience seeded(int seed, String wall) {
+        WallPatience x = Due.with(wall);
+        x.seed(seed);
+        return x;
+    }
+
+    /** "by the draws that come": each is asked of an object of its own. */
+    private static void byTheDrawsThatCome() {
+        String two = "w24,1;p10,0,5,0;p10,4,0,0;";
+        due.is("strain by wind", seeded(46, two).strain(0, 1), 5);
+        due.is("down by wind", seeded(46, two).down(0), 2);
+        due.is("duel by wind", seeded(46, two).duel(0, 1), 1);
+        due.is("duel without", seeded(9, two).duel(0, 1), 0);
+        due.is("honour by wind", seeded(46, two).honour(0), 9);
+        due.is("honour without", seeded(9, two).honour(0), 11);
+        due.is("eat by wind", seeded(46, two).eat(0, 8, 0), 2);
+        due.is("eat by wind, which", seeded(46, two).eat(0, 8, 1), 2);
+        due.is("eat without", seeded(9, two).eat(0, 8, 0), 8);
+        due.is("train by wind", seeded(46, two).train(0, 2, 0), 2);
+        due.is("train without", seeded(9, two).train(0, 2, 0), 0);
+        due.is("dusk by wind", seeded(46, two).dusk(2), 24);
+        due.is("dusk without", seeded(9, two).dusk(1), NONE);
+        for (int n = 0; n <= 3; n++) {
+            String slow = "w24,0;p50,0,5,0;p60,0,0,0;";
+            due.is("game by wind", seeded(46, slow).game(0, 1, n), 1990 - 5 * n);
+            due.is("game by two winds", seeded(1, slow).game(0, 1, n), 1990 - 5 * Math.min(2, n));
+            due.is("game without", seeded(9, slow).game(0, 1, n), 1990);
+        }
+        WallPatience x = seeded(46, "w24,0;p99,0,5,0;");
+        x.sheet(0, 0, 4);
+        Due.fill(x, 0, 0, 5, 10, 15, 15);
+        due.is("ate by wind", x.ate(0, 0, 0, 0, 4, 0), 1);
+        WallPatience y = seeded(46, "w24,0;p99,0,5,0;");
+        y.sheet(0, 0, 4);
+        y.film(0, 4, 0, 0, 0);
+        due.is("film by wind: 5 and 10, 15 and 15", y.round(0, 0, 0, 2, 0), 30);
+    }
+
+    /** It is night from hour 1 on: wind and night, then rain and night. */
+    private static void byTheNightsThatCome() {
+        String two = "w1,0;p50,0,5,0;p60,0,0,0;";
+        int[] strains = {0, 5, 15, 20};
+        for (int n = 0; n <= 3; n++) {
+            due.is("strain", seeded(1, two).strain(0, n), strains[n]);
+            due.is("game", seeded(1, two).game(0, 1, n), 1990 - strains[n]);
+        }
+        WallPatience x = Due.with("w1,0;p99,0,0,0;p10,0,5,0;");
+        x.hours(1);
+        // 5, and 5 by night: he needs no wind
+        due.is("odds", x.odds(0, 1, 1, 0, 0), 1);
+        WallPatience y = Due.with("w1,0;p99,0,0,0;p99,0,0,0;p10,0,5,0;");
+        y.hours(1);
+        due.is("challenge", y.challenge(0, 1, 0), 2);
+        WallPatience z = Due.with("w2,0;p99,0,0,0;p11,0,5,0;");
+        z.hours(1);
+        due.is("the last hour by day, then night", z.odds(0, 1, 2, 0, 0), 0);
+        due.is("and night again", z.odds(0, 1, 3, 0, 0), 1);
     }
 
     /** Promise 17: "STRAIN (n 0 .. 60). BAD." */
@@ -598,6 +682,19 @@ public final class ForetoldEdgesTest {
         // two crusts and strain 9 each hour: 9, 12, 15
         WallPatience two = Due.with("w24,2;p50,9,0,0;p99,0,0,0;");
         due.is("two crusts", two.game(0, 1, 3), 2000 + 50 - 15 - 99);
+    }
+
+    /** One thing ahead of an hour: a crust is worth 6 at once, bad news 3 in each hour to come. */
+    private static void gameOneThingAtATime() {
+        WallPatience x = Due.with("w24,1;p50,6,0,0;p50,6,0,6;");
+        x.hours(1);
+        // strains 6 and 9; the other one's second lets him eat, he has no news to bring that worry
+        due.is("his crust", x.game(0, 1, 1), 2000 + (50 - 6) - (50 - 12));
+        // one's second: news ahead of the first hour, his crust ahead of the second one: 9 and twice 12 less 6
+        due.is("news, then his crust", x.game(0, 1, 2), 2000 + (50 - 12) - (50 - 27));
+        WallPatience y = Due.with("w24,0;p50,0,0,0;p50,0,0,6;");
+        y.crust(0);
+        due.is("news alone", y.game(0, 1, 2), 2000 + 50 - (50 - 12));
     }
 
     /** "brings bad NEWS to the adversary (who sits)": good ones are gone, bad ones stay bad. */

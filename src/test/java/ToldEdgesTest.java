@@ -19,6 +19,7 @@ public final class ToldEdgesTest {
         sorts();
         noBlanks();
         everyByteInEachPlace();
+        aByteIsMissing();
         theEnd();
         theFirstFault();
         faultLeavesAllElse();
@@ -235,6 +236,14 @@ public final class ToldEdgesTest {
                 int answer = walled(x, WALL.substring(0, at) + (char) b + WALL.substring(at + 1));
                 due.is("byte " + b + " at " + at, answer, dueWith(at, b));
             }
+        }
+    }
+
+    /** What comes behind stands where it cannot, or makes a number that is not as told. */
+    private static void aByteIsMissing() {
+        int[] want = {-100, 1, 1, -101, -104, -105, -106, -107, -107, -107, -110, -110, -112, -112, -114, -115};
+        for (int at = 0; at < WALL.length(); at++) {
+            wall(WALL.substring(0, at) + WALL.substring(at + 1), want[at]);
         }
     }
 
