@@ -31,6 +31,7 @@ public final class ForetoldEdgesTest {
         trainHungerToNone();
         trainColdToNone();
         trainHours1To40();
+        trainOfLikeOnes();
         trainNone();
         dusk1();
         dusk23();
@@ -229,7 +230,7 @@ public final class ForetoldEdgesTest {
         due.is("down(-1)", x.down(-1), BAD);
     }
 
-    /** "which of them gets DOWN later than the other one, or not, in 60 HOURS; NONE: both in the same HOUR, or neither". */
+    /** "later than the other one, or not, in 60 HOURS; NONE: both in the same HOUR, or neither". */
     private static void duelOf60() {
         WallPatience x = Due.with("w24,0;p59,1,0,0;p60,1,0,0;p61,1,0,0;p62,1,0,0;p59,1,0,0;p30,1,0,0;");
         int[][] want = {{BAD, 1, 2, 3, NONE, 0}, {1, BAD, 2, 3, 1, 1}, {2, 2, BAD, NONE, 2, 2}, {3, 3, NONE, BAD, 3, 3},
@@ -427,6 +428,16 @@ public final class ForetoldEdgesTest {
         due.is("down", x.train(0, 40, 3), NOT);
         due.is("down, n 41", x.train(0, 41, 0), BAD);
         due.is("down, what 4", x.train(0, 40, 4), BAD);
+    }
+
+    /** "by the least cost (2 a, 5 b and 3 c together), of like ones the least a, then the least b". */
+    private static void trainOfLikeOnes() {
+        // two hours of wind of three: 5 is the cost of a 1, c 1 (17 of 18) and of b 1 (16 of 17)
+        trains(Due.with("w24,0;p17,5,2,0;"), 3, 5, 0, 1, 0);
+        // three hours of wind of five: 15 is the cost of b 3 (15 of 16) and of c 5 (15 of 16)
+        trains(Due.with("w24,0;p16,3,5,0;"), 5, 15, 0, 0, 5);
+        // two hours of wind: 6 is the cost of a 3 (12 of 13) and of c 2 (8 of 10), 5 that of a 1, c 1 (10 of 11)
+        trains(Due.with("w24,0;p10,1,5,0;"), 2, 5, 1, 0, 1);
     }
 
     /** "NONE: by none", for whatever is asked. */

@@ -6,7 +6,7 @@ import java.util.Map;
 
 /**
  * "Answers below 0, of several the first that a call names" and "what is refused changes nothing": every call of the
- * face, each of its numbers on both sides of what is told and far outside, together with all else that could be refused.
+ * face, each of its numbers on both sides of what is told and far outside, beside all else that could be refused.
  */
 public final class RefusedTest {
     private static final int BAD = WallPatience.BAD, NOT = WallPatience.NOT, FULL = WallPatience.FULL;

@@ -1,6 +1,6 @@
 import java.util.Arrays;
 
-/** The boundary cases of part 4, a test for each sentence that names one: rows, rounds, news that goes on, who ate when. */
+/** The boundary cases of part 4, a test for each sentence that names one: rows, rounds, news, who ate when. */
 public final class SheetsEdgesTest {
     private static final int BAD = WallPatience.BAD, NOT = WallPatience.NOT, NONE = WallPatience.NONE;
     private static final int NULL = WallPatience.NULL, CAST = WallPatience.CAST;
@@ -181,9 +181,11 @@ public final class SheetsEdgesTest {
             }
             due.is("lane " + lane + " all bits", x.item(lane, lane, 0, 2 * most + 1), -1);
             due.is("lane " + lane + " the next bit", x.item(lane, lane, 0, 2 * most + 2), 0);
-            due.is("lane " + lane + " greatest long", x.item(lane, lane, 0, Long.MAX_VALUE), lane < 3 ? -1 : Long.MAX_VALUE);
-            due.is("lane " + lane + " least long", x.item(lane, lane, 0, Long.MIN_VALUE), lane < 3 ? 0 : Long.MIN_VALUE);
-            due.is("lane " + lane + " 2^32 and 5", x.item(lane, lane, 0, (1L << 32) + 5), lane < 3 ? 5 : (1L << 32) + 5);
+            long[] far = {Long.MAX_VALUE, Long.MIN_VALUE, (1L << 32) + 5};
+            long[] cut = {-1, 0, 5};
+            for (int k = 0; k < far.length; k++) {
+                due.is("lane " + lane + " item " + far[k], x.item(lane, lane, 0, far[k]), lane < 3 ? cut[k] : far[k]);
+            }
         }
     }
 
@@ -252,8 +254,8 @@ public final class SheetsEdgesTest {
         WallPatience x = twoRows();
         int[][] wrong = {{3, 0, 4}, {4, 0, 3}, {0, 1, 3}, {0, 0, 4}, {-1, 0, 1}, {0, -1, 1}, {6, 0, 1}, {0, 3, 1},
             {7, 0, 0}, {0, 4, 0}, {-1, 0, 0}, {0, -1, 0}, {0, 0, -1}, {1, 1, -1}, {6, 3, -1}, {0, 0, MIN}, {0, 0, MAX},
-            {1, 0, MAX}, {0, 1, MAX}, {MAX, 0, 1}, {0, MAX, 1}, {MAX, MAX, MAX}, {MIN, 0, 1}, {0, MIN, 1}, {MIN, MIN, MIN},
-            {MAX, 0, MIN}, {MIN, 0, MAX}, {1 << 30, 1 << 30, 1 << 30}, {MAX, 0, 0}, {0, MAX, 0}};
+            {1, 0, MAX}, {0, 1, MAX}, {MAX, 0, 1}, {0, MAX, 1}, {MAX, MAX, MAX}, {MIN, 0, 1}, {0, MIN, 1},
+            {MIN, MIN, MIN}, {MAX, 0, MIN}, {MIN, 0, MAX}, {1 << 30, 1 << 30, 1 << 30}, {MAX, 0, 0}, {0, MAX, 0}};
         for (int[] a : wrong) {
             due.is("copy(0, " + a[0] + ", 1, " + a[1] + ", " + a[2] + ")", x.copy(0, a[0], 1, a[1], a[2]), INDEX);
         }
@@ -324,6 +326,9 @@ public final class SheetsEdgesTest {
         }
         due.is("a row of none", x.film(0, 1, 2, 2, 0), INDEX);
         holds(x, 0, 2, 1, 1, 1, 1, 1);
+        Due.fill(x, 0, 2, 9, 9, 9, 9, 9);
+        due.is("in the middle", x.film(0, 3, 0, 2, 1), 3);
+        holds(x, 0, 2, 9, 1, 2, 3, 9);
     }
 
     /** "its lowest bits": strain 127 is a byte; 128 is -128 then, which is no place, and no strain that could be. */
@@ -397,7 +402,7 @@ public final class SheetsEdgesTest {
         }
     }
 
-    /** "told by two items each (a column, a row, 0 .. 99)"; "NOT: an item is not as told"; those outside are not asked. */
+    /** "told by two items each (a column, a row, 0 .. 99)"; "NOT: an item is not as told", of these alone. */
     private static void roundItems0To99() {
         for (int lane = 0; lane < 4; lane++) {
             WallPatience x = new WallPatience();

@@ -173,7 +173,7 @@ public final class ToldEdgesTest {
             wall(join(with), isLine ? -106 : 1);
             with[numbers[k]] = "05";
             wall(join(with), isLine ? -106 : 1);
-            for (String more : new String[] {"005", "050", "500", "000", "0005", "4294967301", "18446744073709551621"}) {
+            for (String more : new String[] {"005", "050", "500", "000", "0005", "4294967301"}) {
                 with[numbers[k]] = more;
                 wall(join(with), -100 - places[k]);
             }
@@ -228,7 +228,7 @@ public final class ToldEdgesTest {
         }
     }
 
-    /** "the place of the first byte that cannot stand there, or of the first figure of a number that is not as told". */
+    /** "the first byte that cannot stand there, or of the first figure of a number that is not as told". */
     private static void everyByteInEachPlace() {
         for (int at = 0; at < WALL.length(); at++) {
             for (int b = 0; b <= 255; b++) {
